@@ -229,6 +229,15 @@ public final class PromisesTest {
         dueThrow("5: nobody", STATE, () -> game().takeTurn());
     }
 
+    /** Open are (1, 0) and (0, 1): the first one would be certain in both, but of two colours. */
+    private static void promise5TellsWhatWouldBeToldOtherwise() {
+        BorrowedHats game = game(1, 0);
+        game.sayAtLeast(1, 1);
+        game.sayAtLeast(0, 1);
+        due("5: told", 1, game.takeTurn());
+        due("5: not (0, 1), where 0 would be told", 1, game.openWays());
+    }
+
     private static void promise5TakeTurnLookingAway() {
         BorrowedHats game = game(1, 0);
         game.sayAtLeast(1, 1);
@@ -311,7 +320,12 @@ public final class PromisesTest {
         due("8: hats", "01", "" + game.hatOf(0) + game.hatOf(1));
         due("8: looks away", false, game.sees(0, 1));
         due("8: sees", true, game.sees(1, 0));
-        due("8: each hat", 3, game.openWaysWith(1, 2));
+        for (int colour = 0; colour < 3; colour++) {
+            due("8: each hat", 3, game.openWaysWith(0, colour));
+            due("8: each hat", 3, game.openWaysWith(1, colour));
+        }
+        game.turnAway(0, 1);
+        due("8: as new", game(0, 1).digest(), game.digest());
         due("8: of five", 243, game(0, 0, 1, 2, 2).begin());
     }
 
@@ -545,9 +559,49 @@ public final class PromisesTest {
         game.sayAtMost(2, 0);
         long before = game.digest();
         due("27: told by the first one", 1, game.turnsUntilAllCertain());
+        game.borrow(0, 1);
+        due("27: only the second one ever is", -1, game.turnsUntilAllCertain());
+        game.borrow(0, 1);
         due("27: digest behind it", before, game.digest());
         game.takeTurn();
         due("27: then", 0, game.turnsUntilAllCertain());
+    }
+
+    /** Found by a search for games that last: the players wait for 12, 43, 39, 40, 37 turns. */
+    private static BorrowedHats gameOfLongWaits() {
+        BorrowedHats game = game(0, 1, 0, 2, 2);
+        int[][] away = {{0, 4}, {0, 1}, {2, 3}, {4, 0}, {4, 1}, {1, 2}};
+        game.sayAtLeast(0, 2);
+        for (int[] pair : away) {
+            game.turnAway(pair[0], pair[1]);
+        }
+        game.sayAtMost(0, 3);
+        game.sayAtMost(1, 1);
+        game.borrow(3, 1);
+        game.turnAway(3, 4);
+        return game;
+    }
+
+    private static void promises26And27AtMost40() {
+        BorrowedHats game = gameOfLongWaits();
+        int[] waits = {12, -1, 39, 40, 37};
+        for (int p = 0; p < 5; p++) {
+            due("26: long wait of " + p, waits[p], game.turnsUntilCertain(p));
+        }
+        due("27: 43 turns", -1, game.turnsUntilAllCertain());
+        game.takeTurn();
+        game.takeTurn();
+        due("26: 41 turns", -1, game.turnsUntilCertain(1));
+        due("27: 41 turns", -1, game.turnsUntilAllCertain());
+        game.takeTurn();
+        due("26: 40 turns", 40, game.turnsUntilCertain(1));
+        due("27: 40 turns", 40, game.turnsUntilAllCertain());
+        for (int turns = 1; turns <= 40; turns++) {
+            due("27: not yet", true, game.certainPlayers() < 5);
+            game.takeTurn();
+            due("27: fewer turns", 40 - turns, game.turnsUntilAllCertain());
+        }
+        due("27: all are certain then", 5, game.certainPlayers());
     }
 
     private static void promise28BestToName() {
@@ -563,6 +617,14 @@ public final class PromisesTest {
         game.sayAtMost(2, 0);
         game.sayAtLeast(1, 1);
         due("28: alike again", 0, game.bestToName());
+        BorrowedHats two = game(2, 0, 0);
+        two.sayAtMost(0, 2);
+        two.sayAtMost(2, 1);
+        two.sayAtLeast(2, 1);
+        due("28: at least one, of 12 ways 9 with 0 and 12 with 2", 0, two.bestToName());
+        BorrowedHats first = game(0, 1, 1);
+        first.sayAtMost(0, 1);
+        due("28: 12 ways of 20 with 0, 16 with 1", 0, first.bestToName());
     }
 
     private static void promise29CertainIfTold() {
@@ -589,6 +651,7 @@ public final class PromisesTest {
 
     private static void promise30MeanPossible() {
         due("30: without players", 0.0, game().meanPossible());
+        due("30: alone", 3.0, game(2).meanPossible());
         BorrowedHats game = game(1, 0);
         due("30: at first", 3.0, game.meanPossible());
         game.turnAway(1, 0);
@@ -613,6 +676,7 @@ public final class PromisesTest {
 
     private static void promise31Digest() {
         due("31: without players", digestOf(0, 0, 0, -1, 1, 0, -1, 0), game().digest());
+        due("31: alone", digestOf(1, 0, 0, 0, 3, 0, 2, 3, 2, 3, 0, 0, 1, 0, 0, 0), game(2).digest());
         BorrowedHats game = game(1, 0);
         due("31: at first", digestOf(2, 0, 0, 0, 9, 0, 0, 9,
                 1, 3, 0, 0, 1, 0, 0, 0, 1, 1, 0,
@@ -637,6 +701,7 @@ public final class PromisesTest {
         promise4BorrowOfFive();
         promise4WrongBorrow();
         promise5TakeTurn();
+        promise5TellsWhatWouldBeToldOtherwise();
         promise5TakeTurnLookingAway();
         promise6SayAtLeast();
         promise6WrongSayAtLeast();
@@ -658,6 +723,7 @@ public final class PromisesTest {
         promise25OpenAfterTurn();
         promise26TurnsUntilCertain();
         promise27TurnsUntilAllCertain();
+        promises26And27AtMost40();
         promise28BestToName();
         promise29CertainIfTold();
         promise30MeanPossible();
