@@ -230,9 +230,10 @@ public final class BorrowedHats {
         requirePlayer(player);
         requirePlayer(other);
         noteOwnColours(open, other);
+        int seen = seenHatsOf(player);
         for (int i = 0; i < open.count(); i++) {
             int way = open.at(i);
-            if (agreesWithNow(way, player) && !wouldBeCertain(way, other)) {
+            if (agreesWithNow(way, seen) && !wouldBeCertain(way, other)) {
                 return false;
             }
         }
@@ -353,7 +354,7 @@ public final class BorrowedHats {
     }
 
     private static int colourIn(int way, int player) {
-        return (way >> shiftOf(player)) & ONE_HAT;
+        return (way >> (player * BITS_OF_HAT)) & ONE_HAT;
     }
 
     private static int exchanged(int way, int player, int other) {
@@ -400,8 +401,8 @@ public final class BorrowedHats {
         return way & seenHatsOf(player) & ALL_HATS;
     }
 
-    private boolean agreesWithNow(int way, int player) {
-        return viewOf(way, player) == viewOf(wayOfNow, player);
+    private boolean agreesWithNow(int way, int hats) {
+        return ((way ^ wayOfNow) & hats) == 0;
     }
 
     // ---- which ways are open
@@ -486,8 +487,9 @@ public final class BorrowedHats {
 
     private int countPossible(int player) {
         int possible = 0;
+        int seen = seenHatsOf(player);
         for (int i = 0; i < open.count(); i++) {
-            if (agreesWithNow(open.at(i), player)) {
+            if (agreesWithNow(open.at(i), seen)) {
                 possible++;
             }
         }
@@ -499,9 +501,10 @@ public final class BorrowedHats {
     /** One bit for each colour that a player holds possible of another one, if these ways were open. */
     private int possibleColours(Ways ways, int player, int other) {
         int colours = 0;
+        int seen = seenHatsOf(player);
         for (int i = 0; i < ways.count(); i++) {
             int way = ways.at(i);
-            if (agreesWithNow(way, player)) {
+            if (agreesWithNow(way, seen)) {
                 colours = colours | (1 << colourIn(way, other));
             }
         }
