@@ -498,7 +498,7 @@ public final class BorrowedHats {
 
     // ---- who is certain
 
-    /** One bit for each colour that a player holds possible of another one, if these ways were open. */
+    /** One bit for each colour that a player would hold possible of another one by these ways. */
     private int possibleColours(Ways ways, int player, int other) {
         int colours = 0;
         int seen = seenHatsOf(player);

@@ -8,7 +8,8 @@ import java.util.Random;
 public final class LongRunsTest {
     private static final int RUNS = 400;
     private static final int CALLS = 150;
-    private static final int[] FAR = {-1, 5, 5, 6, 7, Integer.MAX_VALUE, Integer.MIN_VALUE, 1 << 30};
+    private static final int[] FAR =
+            {-1, 5, 5, 6, 7, Integer.MAX_VALUE, Integer.MIN_VALUE, 1 << 30};
 
     private static final Method[] METHODS = methods();
 

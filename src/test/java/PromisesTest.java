@@ -676,7 +676,8 @@ public final class PromisesTest {
 
     private static void promise31Digest() {
         due("31: without players", digestOf(0, 0, 0, -1, 1, 0, -1, 0), game().digest());
-        due("31: alone", digestOf(1, 0, 0, 0, 3, 0, 2, 3, 2, 3, 0, 0, 1, 0, 0, 0), game(2).digest());
+        due("31: alone", digestOf(1, 0, 0, 0, 3, 0, 2, 3,
+                2, 3, 0, 0, 1, 0, 0, 0), game(2).digest());
         BorrowedHats game = game(1, 0);
         due("31: at first", digestOf(2, 0, 0, 0, 9, 0, 0, 9,
                 1, 3, 0, 0, 1, 0, 0, 0, 1, 1, 0,
