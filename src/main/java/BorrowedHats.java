@@ -255,11 +255,11 @@ public final class BorrowedHats {
 
     public int turnsUntilCertain(int player) throws IndexOutOfBoundsException {
         requirePlayer(player);
-        return turnsUntilCertainFrom(player, player);
+        return turnsUntilAreCertain(player, player + 1);
     }
 
     public int turnsUntilAllCertain() {
-        return turnsUntilCertainFrom(0, playerCount - 1);
+        return turnsUntilAreCertain(0, playerCount);
     }
 
     public int bestToName() {
@@ -573,21 +573,22 @@ public final class BorrowedHats {
         return isTold;
     }
 
-    private int turnsUntilCertainFrom(int first, int last) {
+    /** Behind how many turns all players from the first one on, ahead of the end, are certain. */
+    private int turnsUntilAreCertain(int first, int end) {
         trial.copyFrom(open);
         int player = turn;
         for (int turns = 0; turns < MOST_TURNS_AHEAD; turns++) {
-            if (areCertainBy(trial, first, last)) {
+            if (areCertainBy(trial, first, end)) {
                 return turns;
             }
             passTurn(trial, player);
             player = playerAfter(player);
         }
-        return areCertainBy(trial, first, last) ? MOST_TURNS_AHEAD : NOT_BY_THEN;
+        return areCertainBy(trial, first, end) ? MOST_TURNS_AHEAD : NOT_BY_THEN;
     }
 
-    private boolean areCertainBy(Ways ways, int first, int last) {
-        for (int player = first; player <= last; player++) {
+    private boolean areCertainBy(Ways ways, int first, int end) {
+        for (int player = first; player < end; player++) {
             if (!isCertainBy(ways, player)) {
                 return false;
             }

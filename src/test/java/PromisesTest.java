@@ -10,11 +10,7 @@ public final class PromisesTest {
     private static final Checks CHECKS = new Checks();
 
     private static BorrowedHats game(int... colours) {
-        BorrowedHats game = new BorrowedHats();
-        for (int colour : colours) {
-            game.addPlayer(colour);
-        }
-        return game;
+        return Games.game(colours);
     }
 
     private static void due(String what, Object want, Object got) {
@@ -160,16 +156,8 @@ public final class PromisesTest {
         due("3: digest behind it", before, game.digest());
     }
 
-    /** Open are (1, 0) and (1, 2): two players with 1 and 0, one 1 at least, a turn told. */
-    private static BorrowedHats gameOfTwoWays() {
-        BorrowedHats game = game(1, 0);
-        game.sayAtLeast(1, 1);
-        game.takeTurn();
-        return game;
-    }
-
     private static void promise4Borrow() {
-        BorrowedHats game = gameOfTwoWays();
+        BorrowedHats game = Games.gameOfTwoWays();
         due("4: colour then", 0, game.borrow(0, 1));
         due("4: hat", 0, game.hatOf(0));
         due("4: hat", 1, game.hatOf(1));
@@ -222,7 +210,7 @@ public final class PromisesTest {
         due("5: still open", 3, game.openWays());
         due("5: round again", 0, game.playerInTurn());
         due("5: silence", -1, game.takeTurn());
-        BorrowedHats told = gameOfTwoWays();
+        BorrowedHats told = Games.gameOfTwoWays();
         due("5: (1, 0) and (1, 2) are open", 2, told.openWays());
         due("5: told 1", 2, told.openWaysWith(0, 1));
         due("5: not (0, 1), (1, 1), (2, 1)", 0, told.openWaysWith(1, 1));
@@ -309,7 +297,7 @@ public final class PromisesTest {
 
     private static void promise8Begin() {
         due("8: without players", 1, game().begin());
-        BorrowedHats game = gameOfTwoWays();
+        BorrowedHats game = Games.gameOfTwoWays();
         game.turnAway(0, 1);
         game.borrow(0, 1);
         due("8: ways", 9, game.begin());
@@ -405,7 +393,7 @@ public final class PromisesTest {
     }
 
     private static void promise18IsKnownToAll() {
-        BorrowedHats game = gameOfTwoWays();
+        BorrowedHats game = Games.gameOfTwoWays();
         due("18: known", true, game.isKnownToAll(0));
         due("18: not known", false, game.isKnownToAll(1));
         due("18: at first", false, game(0, 0).isKnownToAll(0));
@@ -466,7 +454,7 @@ public final class PromisesTest {
         game.turnAway(0, 1);
         game.sayAtLeast(1, 1);
         due("22: the own, certain", true, game.knowsHatOf(0, 0));
-        BorrowedHats away = gameOfTwoWays();
+        BorrowedHats away = Games.gameOfTwoWays();
         away.turnAway(1, 0);
         due("22: not seen, but told", true, away.knowsHatOf(1, 0));
         dueOnlyForTwoPlayers("22: knowsHatOf", (g, p, q) -> g.knowsHatOf(p, q));
@@ -567,23 +555,8 @@ public final class PromisesTest {
         due("27: then", 0, game.turnsUntilAllCertain());
     }
 
-    /** Found by a search for games that last: the players wait for 12, 43, 39, 40, 37 turns. */
-    private static BorrowedHats gameOfLongWaits() {
-        BorrowedHats game = game(0, 1, 0, 2, 2);
-        int[][] away = {{0, 4}, {0, 1}, {2, 3}, {4, 0}, {4, 1}, {1, 2}};
-        game.sayAtLeast(0, 2);
-        for (int[] pair : away) {
-            game.turnAway(pair[0], pair[1]);
-        }
-        game.sayAtMost(0, 3);
-        game.sayAtMost(1, 1);
-        game.borrow(3, 1);
-        game.turnAway(3, 4);
-        return game;
-    }
-
     private static void promises26And27AtMost40() {
-        BorrowedHats game = gameOfLongWaits();
+        BorrowedHats game = Games.gameOfLongWaits();
         int[] waits = {12, -1, 39, 40, 37};
         for (int p = 0; p < 5; p++) {
             due("26: long wait of " + p, waits[p], game.turnsUntilCertain(p));
